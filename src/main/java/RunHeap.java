@@ -522,6 +522,8 @@ public final class RunHeap {
 
         void search(int words) {
             rankMovables();
+            // Moves leave as many words free as there were, so no longer window can come free.
+            int longest = row.freeWords();
             int end = 0;
             int held = 0;
             int victims = 0;
@@ -532,8 +534,9 @@ public final class RunHeap {
                     victims += row.kind[end] == LIVE ? 1 : 0;
                     end++;
                 }
+                boolean longEnough = held >= words && held <= longest;
                 boolean fewer = !given || victims < best.made;
-                if (held >= words && fewer && placeVictims(first, end)) {
+                if (longEnough && fewer && placeVictims(first, end)) {
                     given = true;
                     lowest = row.address[first];
                     best.takeOver(trial);
@@ -567,25 +570,31 @@ public final class RunHeap {
                 boolean outside = i < first || i >= end;
                 left[i] = outside && row.kind[i] == FREE ? row.size[i] : 0;
             }
+            int size = 0;
+            int place = 0;
             for (int i = 0; i < movables; i++) {
                 int victim = movable[i];
-                if (victim >= first && victim < end && !place(victim)) {
-                    return false;
+                if (victim >= first && victim < end) {
+                    // What was too small for one victim is too small for the next of its size.
+                    place = lowestPlace(row.size[victim] == size ? place : 0, row.size[victim]);
+                    if (place == NONE) {
+                        return false;
+                    }
+                    size = row.size[victim];
+                    trial.put(row.address[victim], row.end(place) - left[place]);
+                    left[place] -= size;
                 }
             }
             return true;
         }
 
-        private boolean place(int victim) {
-            int size = row.size[victim];
-            for (int i = 0; i < row.blocks; i++) {
+        private int lowestPlace(int from, int size) {
+            for (int i = from; i < row.blocks; i++) {
                 if (left[i] >= size) {
-                    trial.put(row.address[victim], row.end(i) - left[i]);
-                    left[i] -= size;
-                    return true;
+                    return i;
                 }
             }
-            return false;
+            return NONE;
         }
     }
 

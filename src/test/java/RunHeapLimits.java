@@ -19,6 +19,7 @@ public final class RunHeapLimits {
         deepTreeToTheLeft();
         mostBlocks();
         mostMoves();
+        mostVictims();
         adviceOfNoUse();
         System.out.println(wrong == 0 ? "all limits hold" : wrong + " answers are not as due");
         if (wrong != 0) {
@@ -100,6 +101,35 @@ public final class RunHeapLimits {
         due("count(2)", x.count(2), 128);
         due("moved(1524)", x.moved(1524), 2048);
         due("get(2048, 2)", x.get(2048, 2), 5);
+    }
+
+    /** 1016 free words, 127 blocks of 8, one of 1020 that fits only behind it, 1020 free words. */
+    private static void mostVictims() {
+        RunHeap x = new RunHeap(4075);
+        due("give(1015)", x.give(1015), 4);
+        for (int i = 0; i < 127; i++) {
+            due("give(7)", x.give(7), 1020 + 8 * i);
+        }
+        due("give(1019)", x.give(1019), 2036);
+        due("free(4)", x.free(4), true);
+        due("set(2036, 1018, 1)", x.set(2036, 1018, 1), 0);
+        due("set(2028, 6, 2)", x.set(2028, 6, 2), 0);
+        due("advise(2037)", x.advise(2037), RunHeap.NONE);
+        due("advise(2036)", x.advise(2036), 128);
+        due("window()", x.window(), 1020);
+        due("move(0, 0)", x.move(0, 0), 2036);
+        due("move(0, 1)", x.move(0, 1), 3056);
+        for (int i = 1; i < 128; i++) {
+            due("move(" + i + ", 0)", x.move(i, 0), 1012 + 8 * i);
+            due("move(" + i + ", 1)", x.move(i, 1), 8 * i - 4);
+        }
+        due("apply()", x.apply(), 128);
+        due("largest()", x.largest(), 2036);
+        due("count(0)", x.count(0), 1);
+        due("moved(2036)", x.moved(2036), 3056);
+        due("moved(2028)", x.moved(2028), 1012);
+        due("get(3056, 1018)", x.get(3056, 1018), 1);
+        due("get(1012, 6)", x.get(1012, 6), 2);
     }
 
     private static void adviceOfNoUse() {

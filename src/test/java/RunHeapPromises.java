@@ -309,6 +309,20 @@ public final class RunHeapPromises {
         due("pin(4, false)", x.pin(4, false), true);
         due("advise(20)", x.advise(20), 1);
         dueMoves(x, 4, 48);
+        growOverOldWords();
+    }
+
+    private static void growOverOldWords() {
+        RunHeap x = heapOf(39, 36);
+        for (int i = 0; i < 35; i++) {
+            due("set", x.set(4, i, 100 + i), 0);
+        }
+        due("trim(4, 3)", x.trim(4, 3), true);
+        due("grow(4, 11)", x.grow(4, 11), true);
+        due("grow(4, 35)", x.grow(4, 35), true);
+        for (int i = 0; i < 35; i++) {
+            due("get(4, " + i + ")", x.get(4, i), i < 3 ? 100 + i : 0);
+        }
     }
 
     private static void trim() {
@@ -632,6 +646,11 @@ public final class RunHeapPromises {
         pinAll(none, 44);
         due("advise(20), no place outside is large enough", none.advise(20), RunHeap.NONE);
         due("advise(8)", none.advise(8), 0);
+        RunHeap parted = heapOf(39, 8, 4, 12, 4, 8);
+        freeAll(parted, 4, 32);
+        pinAll(parted, 12, 28);
+        due("advise(12), places outside only together", parted.advise(12), RunHeap.NONE);
+        dueNoAdvice("advise(12)", parted);
     }
 
     private static void adviseRefuses() {
