@@ -195,7 +195,7 @@ public final class RunHeap {
         for (int i = 0; i < applied.made; i++) {
             copyBlock(applied.from[i], applied.to[i]);
         }
-        // Only now: an old place that comes free may become one with a block still to be moved into.
+        // Only now: an old place that comes free may join a block that a later move goes into.
         for (int i = 0; i < applied.made; i++) {
             leaveBlock(applied.from[i]);
         }
@@ -390,7 +390,7 @@ public final class RunHeap {
             return at >= 0 && at < blocks && kind[at] == FREE;
         }
 
-        /** Leaves a block so many words; the rest, if there is any, is a block of its own behind. */
+        /** Leaves a block so many words; the rest, if any, is a block of its own behind it. */
         private void split(int at, int words) {
             int rest = size[at] - words;
             if (rest <= 0) {

@@ -31,7 +31,8 @@ public final class RunHeapAgainstModel {
         for (Kind kind : Kind.values()) {
             System.out.println(kind + ": " + heard[kind.ordinal()] + " calls, "
                     + accepted[kind.ordinal()] + " of them not refused");
-            if (accepted[kind.ordinal()] == 0 || accepted[kind.ordinal()] == heard[kind.ordinal()]) {
+            int refused = heard[kind.ordinal()] - accepted[kind.ordinal()];
+            if (accepted[kind.ordinal()] == 0 || refused == 0) {
                 System.out.println("these runs show too little");
                 System.exit(1);
             }
@@ -90,7 +91,8 @@ public final class RunHeapAgainstModel {
                 String want = answerOf(() -> callModel(model, kind, with));
                 told.add(kind + Arrays.toString(with) + " = " + got);
                 heard[kind.ordinal()]++;
-                boolean refused = want.equals("0") || want.equals("-1") || want.startsWith("throws");
+                boolean refused =
+                        want.equals("0") || want.equals("-1") || want.startsWith("throws");
                 accepted[kind.ordinal()] += refused ? 0 : 1;
                 if (!got.equals(want)) {
                     return String.join("\n  ", told) + "\n  due is " + want;
@@ -311,7 +313,7 @@ public final class RunHeapAgainstModel {
         }
     }
 
-    /** A free block is an address and a number of words; it is not kept but is what lies between. */
+    /** Keeps the live blocks alone: a free block, an address and its words, lies between them. */
     private static final class Model {
         final TreeMap<Integer, Live> live = new TreeMap<>();
         List<int[]> moves = new ArrayList<>();

@@ -54,7 +54,8 @@ public final class RunHeapFace {
         Set<String> shown = new TreeSet<>();
         for (Field field : RunHeap.class.getDeclaredFields()) {
             show(shown, field, field.toGenericString());
-            if (Modifier.isStatic(field.getModifiers()) && !Modifier.isFinal(field.getModifiers())) {
+            int modifiers = field.getModifiers();
+            if (Modifier.isStatic(modifiers) && !Modifier.isFinal(modifiers)) {
                 say("a static field is not final: " + field);
             }
         }

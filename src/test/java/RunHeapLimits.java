@@ -1,4 +1,4 @@
-/** The largest heaps, the deepest tree, the most live blocks with advice, and long runs of calls. */
+/** The largest heaps, the deepest trees, the most live blocks with advice, long runs of calls. */
 public final class RunHeapLimits {
 
     private static int wrong = 0;
