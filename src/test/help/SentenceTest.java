@@ -51,6 +51,10 @@ abstract class SentenceTest {
         }
     }
 
+    static int faults() {
+        return wrong;
+    }
+
     static void fault(String text) {
         wrong++;
         System.out.println("\"" + named + "\": " + text);
@@ -106,8 +110,14 @@ abstract class SentenceTest {
             due("give(" + (wordsOf(block) - 1) + ")", x.give(wordsOf(block) - 1), address);
             address += wordsOf(block);
         }
-        address = 4;
-        for (String block : each) {
+        freeAndPin(x, each);
+        return x;
+    }
+
+    /** Of blocks that are all live, those told by - are freed and those told by ! are pinned. */
+    static void freeAndPin(RunHeap x, String[] blocks) {
+        int address = 4;
+        for (String block : blocks) {
             if (block.startsWith("-")) {
                 due("free(" + address + ")", x.free(address), true);
             }
@@ -116,7 +126,6 @@ abstract class SentenceTest {
             }
             address += wordsOf(block);
         }
-        return x;
     }
 
     /** The row as it shows from outside, told as in rowOf but without the pins. */
@@ -165,10 +174,15 @@ abstract class SentenceTest {
         due("apply() after " + after, x.apply(), NONE);
     }
 
-    /** Writes into every word of a payload what tells the block and the word. */
+    /** What tells the block and the word. */
+    static int markOf(int address, int i) {
+        return 10000 * address + i + 1;
+    }
+
+    /** Writes its mark into every word of a payload. */
     static void fill(RunHeap x, int address) {
         for (int i = 0; i < x.sizeOf(address); i++) {
-            x.set(address, i, 10000 * address + i + 1);
+            x.set(address, i, markOf(address, i));
         }
     }
 
@@ -177,7 +191,7 @@ abstract class SentenceTest {
         for (int i = from; i < to; i++) {
             int at = i;
             due("get(" + address + ", " + i + ")", answerOf(() -> x.get(address, at)),
-                    "" + (10000 * filledAt + i + 1));
+                    "" + markOf(filledAt, i));
         }
     }
 
