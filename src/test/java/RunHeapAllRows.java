@@ -19,7 +19,7 @@ public final class RunHeapAllRows extends SentenceTest {
     private static int rows = 0;
     private static int calls = 0;
 
-    /** With two numbers, rows of up to so many groups: 5 and 8 take some two minutes. */
+    /** With two numbers, rows of up to so many groups: 5 and 9 take a minute. */
     public static void main(String[] args) {
         boolean told = args.length == 2;
         int forCalls = told ? Integer.parseInt(args[0]) : MOST_GROUPS_FOR_CALLS;
