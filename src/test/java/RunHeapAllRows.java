@@ -6,8 +6,9 @@ import java.util.NoSuchElementException;
 import java.util.function.Consumer;
 
 /**
- * Every row that a small heap can have: each call with each argument that can matter there, and
- * advice for each number of words, against a picture that knows of every group whose it is.
+ * Every row that a small heap can have: each call that changes blocks with each argument that can
+ * matter there, the tree, and advice for each number of words, against a picture that knows of
+ * every group whose it is.
  */
 public final class RunHeapAllRows extends SentenceTest {
 
